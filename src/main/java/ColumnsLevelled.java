@@ -1741,7 +1741,6 @@ public final class ColumnsLevelled {
         /** A SECTION by itself, LEVELLED, as the only columns there are. */
         void levelAlone(int section, int height) {
             columns = 0;
-            page = 0;
             place = at(flow.begins, section);
             carried = 0;
             level(section, height);

@@ -85,6 +85,7 @@ public final class PromisesTest {
         end();
         tellTexts();
         tellFaults();
+        tellWords();
         tellLimits();
         tellState();
         set();
@@ -220,6 +221,15 @@ public final class PromisesTest {
         fault("lines 3 1 mark 1", 16, 1);
         fault("lines 3 1 space tied", 16, 1);
         fault("lines 3 1 lines 3 1", 10, 1);
+        fault("solidz 3", 0, 1);
+        fault("zsolid 3", 0, 1);
+        fault("asolid 3", 0, 1);
+        fault("solid{3", 5, 1);
+        fault("solid`3", 5, 1);
+        fault("solid 3:", 7, 1);
+        fault("solid 3/", 7, 1);
+        fault("solid 9x", 7, 1);
+        fault("solid 0x", 6, 2);
         fault("lines 0 1", 6, 2);
         fault("lines 31 1", 6, 2);
         fault("lines 7 0", 8, 2);
@@ -253,10 +263,32 @@ public final class PromisesTest {
         fault("lines 3 1 mark 1 1 mark 1 2", 24, 2);
         fault("columns 2;columns 3", 10, 3);
         fault("columns 2;solid 1;columns x", 18, 3);
+        fault("room 2;solid 1 tied;solid 2;room 2", 28, 3);
+        fault("height 20;solid 1;solid 1;height 20", 26, 3);
         fault("lines 3 1 tied tied", 15, 3);
         fault("lines 3 1 whole whole", 16, 3);
         fault("lines 3 1 space 1 space 1", 18, 3);
         fault("lines 5 1 mark 1 1 mark 2 1 mark 3 1 mark 4 1 mark 9 99", 46, 3);
+    }
+
+    /** Each WORD is that WORD alone: with another letter, one more or one less it is none. */
+    private static void tellWords() {
+        promise = 4;
+        String[] texts = {"|columns| 3", "|height| 30", "|orphans| 3", "|widows| 3", "|follow| 3", "|note| 3", "|rule| 3",
+            "|room| 3", "|lines| 3 3", "|solid| 3", "|head| 3", "|table| 3 3 3", "|span| 3", "lines 3 3 |tied|",
+            "lines 3 3 |whole|", "head 3 |space| 3", "lines 3 3 |mark| 3 3"};
+        for (String text : texts) {
+            String[] parts = text.split("\\|", -1);
+            int place = parts[0].length();
+            String word = parts[1];
+            due("tell " + text, tell(new ColumnsLevelled(), text.replace("|", "")) >= 0 ? 1 : 0, 1);
+            for (int i = 0; i < word.length(); i++) {
+                char other = word.charAt(i) == 'z' ? 'y' : (char) (word.charAt(i) + 1);
+                fault(parts[0] + word.substring(0, i) + other + word.substring(i + 1) + parts[2], place, 1);
+                fault(parts[0] + word.substring(0, i) + word.substring(i + 1) + parts[2], place, 1);
+            }
+            fault(parts[0] + word + "s" + parts[2], place, 1);
+        }
     }
 
     private static void tellLimits() {
@@ -587,6 +619,16 @@ public final class PromisesTest {
         due("pour", z.pour(), 40);
         z.set(7, 1);
         due("pour", z.pour(), -42);
+        // eleven columns for each line's note, five on each page: a line's last column is the 198th
+        ColumnsLevelled w = of("columns 5;height 10;rule 8;orphans 1;widows 1;"
+            + "lines 4 1 mark 1 20 mark 2 20 mark 3 20 mark 4 20");
+        for (int i = 2; i <= 6; i++) {
+            w.again(0);
+        }
+        due("pour", w.pour(), -2 - 19);
+        due("columns", w.column(NONE, 0), 200);
+        due("column 198", rowOf(w, 198), 39, 3, 0, 18, 19, 1, 0, 20, 1, 0, 10, 0);
+        due("column 199", rowOf(w, 199), 39, 4, 0, 19, 19, 0, 19, 0, 2, 0, 10, 0);
         // eleven pages for each line's note, the fourth one's goes on behind page 39
         ColumnsLevelled n = of("columns 1;height 10;rule 8;orphans 1;widows 1;"
             + "lines 4 1 mark 1 20 mark 2 20 mark 3 20 mark 4 20");
@@ -774,6 +816,9 @@ public final class PromisesTest {
         due("reach", x.reach(0, 1, 0), 0);
         due("reach", x.reach(0, 5, 2000), 5);
         due("a section of no pieces", x.reach(1, 3, 0), 5);
+        // only the first column's end behind line 2 leaves nothing for the third one to bear
+        ColumnsLevelled y = of("note 3;rule 1;orphans 1;widows 2;lines 7 1 tied mark 2 4;lines 6 1 mark 1 7");
+        due("the least carried counts", y.reach(0, 3, 9), 9);
         due("reach", x.reach(0, 0, 5), NONE);
         due("reach", x.reach(0, 6, 5), NONE);
         due("reach", x.reach(0, 1, -1), NONE);
@@ -804,6 +849,8 @@ public final class PromisesTest {
         ColumnsLevelled x = of("columns 2;orphans 3;widows 3;lines 5 1;span 1;solid 5 tied;solid 5;span 1;lines 8 1 whole");
         due("orphans", x.costs(0, 0), 2);
         due("widows", x.costs(0, 1), 2);
+        due("widows 1, not 2", of("columns 2;orphans 3;widows 3;lines 4 1").costs(0, 1), 1);
+        due("orphans 1, not 2", of("columns 2;orphans 3;widows 3;lines 4 1").costs(0, 0), 1);
         due("follow", x.costs(0, 2), 0);
         due("tied", x.costs(1, 3), 5);
         due("whole", x.costs(1, 4), 0);

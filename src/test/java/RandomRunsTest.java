@@ -12,7 +12,7 @@ public final class RandomRunsTest {
 
     public static void main(String[] args) {
         int first = args.length > 0 ? Integer.parseInt(args[0]) : 1;
-        int many = args.length > 1 ? Integer.parseInt(args[1]) : 220;
+        int many = args.length > 1 ? Integer.parseInt(args[1]) : 400;
         for (int seed = first; seed < first + many && wrong < 10; seed++) {
             new Game(seed).play();
         }
