@@ -1472,6 +1472,9 @@ public final class ColumnsLevelled {
         int farthest(int section, int columns, int height) {
             int begin = Math.max(0, at(flow.begins, section));
             int finish = Math.min(MOST_PIECES, at(flow.finishes, section));
+            if (begin > finish) {
+                return NOT;
+            }
             fillRow(carries[0], NONE);
             carries[0][begin] = 0;
             for (int i = 0; i < columns; i++) {
@@ -1504,6 +1507,9 @@ public final class ColumnsLevelled {
         int rowsOfEnds(int section, int columns, int height) {
             int begin = Math.max(0, at(flow.begins, section));
             int finish = Math.min(MOST_PIECES, at(flow.finishes, section));
+            if (begin > finish) {
+                return 0;
+            }
             fillRow(many[0], 0);
             many[0][begin * CARRIES] = 1;
             for (int i = 0; i < columns; i++) {

@@ -94,10 +94,10 @@ public final class FaceTest {
     private static void callWildly(String text, Method m) throws Exception {
         int many = m.getParameterCount();
         int calls = many == 0 ? 1 : many == 1 ? WILD.length : WILD.length * WILD.length;
-        ColumnsLevelled x = told(text);
+        ColumnsLevelled x = Texts.of(text);
         for (int i = 0; i < calls; i++) {
             if (i % 400 == 399) {
-                x = told(text);
+                x = Texts.of(text);
             }
             Object[] args = new Object[many];
             for (int k = 0; k < many; k++) {
@@ -111,19 +111,5 @@ public final class FaceTest {
                 return;
             }
         }
-    }
-
-    private static ColumnsLevelled told(String text) {
-        ColumnsLevelled x = new ColumnsLevelled();
-        byte[] bytes = text.getBytes();
-        for (int fed = 0; fed < bytes.length; fed += 20) {
-            int[] v = new int[5];
-            for (int i = 0; i < 20; i++) {
-                v[i / 4] = v[i / 4] << 8 | (fed + i < bytes.length ? bytes[fed + i] : 32);
-            }
-            x.feed(v[0], v[1], v[2], v[3], v[4]);
-        }
-        due(x.tell() >= 0, "a text: " + text);
-        return x;
     }
 }

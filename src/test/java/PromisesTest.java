@@ -1,5 +1,3 @@
-import java.nio.charset.StandardCharsets;
-
 /** Each promise of the document by itself; the answers that are due were found by hand. */
 public final class PromisesTest {
 
@@ -22,61 +20,12 @@ public final class PromisesTest {
         }
     }
 
-    private static void feedText(ColumnsLevelled x, String text) {
-        byte[] bytes = text.getBytes(StandardCharsets.ISO_8859_1);
-        for (int fed = 0; fed < bytes.length; fed += 20) {
-            int[] v = new int[5];
-            for (int i = 0; i < 20; i++) {
-                int b = fed + i < bytes.length ? bytes[fed + i] & 255 : 0;
-                v[i / 4] = v[i / 4] << 8 | b;
-            }
-            x.feed(v[0], v[1], v[2], v[3], v[4]);
-        }
-        x.end(bytes.length);
-    }
-
-    private static int tell(ColumnsLevelled x, String text) {
-        x.end(0);
-        feedText(x, text);
-        return x.tell();
-    }
-
-    private static ColumnsLevelled of(String text) {
-        ColumnsLevelled x = new ColumnsLevelled();
-        int pieces = tell(x, text);
-        if (pieces < 0) {
-            wrong++;
-            System.out.println("promise " + promise + ": no text: " + text + " (" + pieces + ")");
-        }
-        return x;
-    }
-
     private static void fault(String text, int place, int code) {
-        due("tell " + text, tell(new ColumnsLevelled(), text), -2 - (8 * place + code));
+        due("tell " + text, Texts.tell(new ColumnsLevelled(), text), -2 - (8 * place + code));
     }
 
     private static void told(String text, int pieces) {
-        due("tell " + text, tell(new ColumnsLevelled(), text), pieces);
-    }
-
-    private static int[] rowOf(ColumnsLevelled x, int column) {
-        int[] row = new int[12];
-        for (int what = 0; what < 12; what++) {
-            row[what] = x.column(column, what);
-        }
-        return row;
-    }
-
-    private static int[] pageOf(ColumnsLevelled x, int page) {
-        int[] row = new int[5];
-        for (int what = 0; what < 5; what++) {
-            row[what] = x.page(page, what);
-        }
-        return row;
-    }
-
-    private static int[] wheresOf(ColumnsLevelled x, int piece) {
-        return new int[] {x.where(piece, 0), x.where(piece, 1), x.where(piece, 2)};
+        due("tell " + text, Texts.tell(new ColumnsLevelled(), text), pieces);
     }
 
     public static void main(String[] args) {
@@ -281,7 +230,7 @@ public final class PromisesTest {
             String[] parts = text.split("\\|", -1);
             int place = parts[0].length();
             String word = parts[1];
-            due("tell " + text, tell(new ColumnsLevelled(), text.replace("|", "")) >= 0 ? 1 : 0, 1);
+            due("tell " + text, Texts.tell(new ColumnsLevelled(), text.replace("|", "")) >= 0 ? 1 : 0, 1);
             for (int i = 0; i < word.length(); i++) {
                 char other = word.charAt(i) == 'z' ? 'y' : (char) (word.charAt(i) + 1);
                 fault(parts[0] + word.substring(0, i) + other + word.substring(i + 1) + parts[2], place, 1);
@@ -316,15 +265,15 @@ public final class PromisesTest {
 
     private static void tellState() {
         promise = 4;
-        ColumnsLevelled x = of("columns 3;lines 4 2;solid 5");
+        ColumnsLevelled x = Texts.of("columns 3;lines 4 2;solid 5");
         x.keep(1);
         x.set(0, 4);
-        due("tell", tell(x, "solid 3;height 9"), -2 - (8 * 15 + 2));
+        due("tell", Texts.tell(x, "solid 3;height 9"), -2 - (8 * 15 + 2));
         due("tape", x.count(5), 0);
         due("acts", x.count(4), 1);
         due("blocks", x.count(0), 2);
         due("columns", x.count(10), 4);
-        due("tell", tell(x, "head 4"), 1);
+        due("tell", Texts.tell(x, "head 4"), 1);
         due("tape", x.count(5), 0);
         due("acts", x.count(4), 0);
         due("undo", x.undo(), NONE);
@@ -362,7 +311,7 @@ public final class PromisesTest {
 
     private static void tieAndSpace() {
         promise = 6;
-        ColumnsLevelled x = of("columns 2;solid 5 tied;span 3;solid 5;solid 6");
+        ColumnsLevelled x = Texts.of("columns 2;solid 5 tied;span 3;solid 5;solid 6");
         due("tie", x.tie(0, true), -2);
         due("tie", x.tie(0, false), 1);
         due("tie", x.tie(0, false), -2);
@@ -391,7 +340,7 @@ public final class PromisesTest {
 
     private static void swapAgainDrop() {
         promise = 8;
-        ColumnsLevelled x = of("lines 3 2 tied whole space 4 mark 1 5 mark 3 6;span 7;table 1 2 3");
+        ColumnsLevelled x = Texts.of("lines 3 2 tied whole space 4 mark 1 5 mark 3 6;span 7;table 1 2 3");
         due("swap", x.swap(0, 0), NONE);
         due("swap", x.swap(0, 3), NONE);
         due("swap", x.swap(-1, 0), NONE);
@@ -416,7 +365,7 @@ public final class PromisesTest {
         due("note", x.piece(5, 4), 5);
         due("tied", x.block(3, 5), 1);
         due("acts", x.count(4), 3);
-        ColumnsLevelled full = of("lines 30 1;lines 30 1;lines 29 1;solid 1;span 1");
+        ColumnsLevelled full = Texts.of("lines 30 1;lines 30 1;lines 29 1;solid 1;span 1");
         due("again", full.again(3), -2);
         due("again", full.again(0), -2);
         due("acts", full.count(4), 0);
@@ -432,7 +381,7 @@ public final class PromisesTest {
         due("pieces", full.count(1), 60);
         due("kind", full.block(2, 0), 1);
         due("drop", full.drop(14), 14);
-        ColumnsLevelled one = of("solid 1");
+        ColumnsLevelled one = Texts.of("solid 1");
         due("drop", one.drop(0), 0);
         due("drop", one.drop(0), NONE);
         due("pour", one.pour(), 0);
@@ -441,7 +390,7 @@ public final class PromisesTest {
 
     private static void undo() {
         promise = 11;
-        ColumnsLevelled x = of("solid 5;solid 6 space 3;lines 4 1");
+        ColumnsLevelled x = Texts.of("solid 5;solid 6 space 3;lines 4 1");
         due("undo", x.undo(), NONE);
         x.set(0, 3);
         x.tie(1, true);
@@ -477,7 +426,7 @@ public final class PromisesTest {
 
     private static void shelves() {
         promise = 12;
-        ColumnsLevelled x = of("solid 5;solid 6");
+        ColumnsLevelled x = Texts.of("solid 5;solid 6");
         due("keep", x.keep(2), NONE);
         due("keep", x.keep(-1), NONE);
         due("keep", x.keep(0), 2);
@@ -511,7 +460,7 @@ public final class PromisesTest {
 
     private static void block() {
         promise = 14;
-        ColumnsLevelled x = of("lines 3 2 whole mark 2 1;solid 150 tied;head 9 space 3;span 50;table 8 4 7");
+        ColumnsLevelled x = Texts.of("lines 3 2 whole mark 2 1;solid 150 tied;head 9 space 3;span 50;table 8 4 7");
         int[][] want = {{0, 3, 0, 2, 0, 0, 1, 0, 1}, {1, 1, 3, 150, 0, 1, 0, 0, 0}, {2, 1, 4, 9, 0, 0, 0, 3, 0},
             {4, 0, 5, 50, 0, 0, 0, 0, 0}, {3, 4, 5, 7, 8, 0, 0, 0, 0}};
         for (int b = 0; b < 5; b++) {
@@ -527,7 +476,7 @@ public final class PromisesTest {
 
     private static void piece() {
         promise = 15;
-        ColumnsLevelled x = of("head 3 space 2;lines 6 1 space 4 mark 6 7;span 2;table 5 3 2 tied space 1;solid 8");
+        ColumnsLevelled x = Texts.of("head 3 space 2;lines 6 1 space 4 mark 6 7;span 2;table 5 3 2 tied space 1;solid 8");
         int[][] want = {{0, 0, 3, 2, 0, 0, 0}, {1, 0, 1, 4, 0, 0, 0}, {1, 1, 1, 0, 0, 1, 0}, {1, 2, 1, 0, 0, 1, 0},
             {1, 3, 1, 0, 0, 1, 0}, {1, 4, 1, 0, 0, 0, 0}, {1, 5, 1, 0, 7, 1, 0}, {2 + 1, 0, 7, 1, 0, 1, 1},
             {3, 1, 2, 0, 0, 1, 1}, {3, 2, 2, 0, 0, 0, 1}, {4, 0, 8, 0, 0, 1, 1}};
@@ -554,7 +503,7 @@ public final class PromisesTest {
 
     private static void section() {
         promise = 16;
-        ColumnsLevelled x = of("span 5;lines 6 1 mark 1 3 mark 4 4;solid 3 tied;solid 4;span 6;span 7;head 2");
+        ColumnsLevelled x = Texts.of("span 5;lines 6 1 mark 1 3 mark 4 4;solid 3 tied;solid 4;span 6;span 7;head 2");
         int[][] want = {{0, 0, 0, 1, 0}, {0, 8, 5, 6, 7}, {8, 8, 6, 1, 0}, {8, 9, 7, 2, 0}};
         for (int s = 0; s < 4; s++) {
             for (int what = 0; what < 5; what++) {
@@ -569,48 +518,48 @@ public final class PromisesTest {
 
     private static void pour() {
         promise = 17;
-        ColumnsLevelled x = of("columns 2;height 10;orphans 1;widows 1;lines 25 1");
+        ColumnsLevelled x = Texts.of("columns 2;height 10;orphans 1;widows 1;lines 25 1");
         due("pour", x.pour(), 2);
         promise = 18;
         due("columns", x.column(NONE, 0), 4);
-        due("column 0", rowOf(x, 0), 0, 0, 0, 0, 10, 10, 0, 0, 0, 0, 10, 0);
-        due("column 1", rowOf(x, 1), 0, 1, 0, 10, 20, 10, 0, 0, 0, 0, 10, 0);
-        due("column 2", rowOf(x, 2), 1, 0, 0, 20, 23, 3, 0, 0, 0, 0, 3, 1);
-        due("column 3", rowOf(x, 3), 1, 1, 0, 23, 25, 2, 0, 0, 0, 0, 3, 1);
+        due("column 0", Texts.column(x, 0), 0, 0, 0, 0, 10, 10, 0, 0, 0, 0, 10, 0);
+        due("column 1", Texts.column(x, 1), 0, 1, 0, 10, 20, 10, 0, 0, 0, 0, 10, 0);
+        due("column 2", Texts.column(x, 2), 1, 0, 0, 20, 23, 3, 0, 0, 0, 0, 3, 1);
+        due("column 3", Texts.column(x, 3), 1, 1, 0, 23, 25, 2, 0, 0, 0, 0, 3, 1);
         due("column", x.column(4, 0), NONE);
         due("column", x.column(NONE, 1), NONE);
         due("column", x.column(-2, 0), NONE);
         due("column", x.column(0, 12), NONE);
         due("column", x.column(0, -1), NONE);
         promise = 17;
-        due("only a span", of("span 3").pour(), 1);
-        due("an empty text", of("columns 3").pour(), 0);
+        due("only a span", Texts.of("span 3").pour(), 1);
+        due("an empty text", Texts.of("columns 3").pour(), 0);
         // the first column as late as the rest still fits, columns without pieces behind
-        ColumnsLevelled y = of("columns 4;orphans 1;widows 1;solid 6;lines 8 1");
+        ColumnsLevelled y = Texts.of("columns 4;orphans 1;widows 1;solid 6;lines 8 1");
         due("pour", y.pour(), 1);
-        due("column 0", rowOf(y, 0), 0, 0, 0, 0, 1, 6, 0, 0, 0, 0, 6, 1);
-        due("column 1", rowOf(y, 1), 0, 1, 0, 1, 7, 6, 0, 0, 0, 0, 6, 1);
-        due("column 2", rowOf(y, 2), 0, 2, 0, 7, 9, 2, 0, 0, 0, 0, 6, 1);
-        due("column 3", rowOf(y, 3), 0, 3, 0, 9, 9, 0, 0, 0, 0, 0, 6, 1);
+        due("column 0", Texts.column(y, 0), 0, 0, 0, 0, 1, 6, 0, 0, 0, 0, 6, 1);
+        due("column 1", Texts.column(y, 1), 0, 1, 0, 1, 7, 6, 0, 0, 0, 0, 6, 1);
+        due("column 2", Texts.column(y, 2), 0, 2, 0, 7, 9, 2, 0, 0, 0, 0, 6, 1);
+        due("column 3", Texts.column(y, 3), 0, 3, 0, 9, 9, 0, 0, 0, 0, 0, 6, 1);
     }
 
     private static void pourStuck() {
         promise = 17;
-        ColumnsLevelled x = of("columns 1;height 10;lines 5 1;solid 11");
+        ColumnsLevelled x = Texts.of("columns 1;height 10;lines 5 1;solid 11");
         due("pour", x.pour(), -7);
         due("columns", x.column(NONE, 0), 1);
         due("where", x.where(4, 0), 0);
         due("where", x.where(5, 0), -2);
         due("where", x.where(5, 3), NONE);
-        due("stuck at once", of("height 10;solid 11").pour(), -2);
+        due("stuck at once", Texts.of("height 10;solid 11").pour(), -2);
         // one line a page, behind page 39 something is left over
-        ColumnsLevelled y = of("columns 1;height 10;orphans 1;widows 1;lines 30 9;lines 30 9");
+        ColumnsLevelled y = Texts.of("columns 1;height 10;orphans 1;widows 1;lines 30 9;lines 30 9");
         due("pour", y.pour(), -42);
         due("columns", y.column(NONE, 0), 40);
-        due("where", wheresOf(y, 39), 39, 39, 0);
+        due("where", Texts.where(y, 39), 39, 39, 0);
         due("where", y.where(40, 1), -2);
         // forty pages are poured, a span has room on the last or comes behind it
-        ColumnsLevelled z = of("columns 1;height 10;orphans 1;widows 1;lines 30 9;lines 10 9;span 1;span 1");
+        ColumnsLevelled z = Texts.of("columns 1;height 10;orphans 1;widows 1;lines 30 9;lines 10 9;span 1;span 1");
         due("pour", z.pour(), -42);
         due("span", z.span(0, 0), 39);
         due("span", z.span(0, 1), 9);
@@ -620,29 +569,29 @@ public final class PromisesTest {
         z.set(7, 1);
         due("pour", z.pour(), -42);
         // eleven columns for each line's note, five on each page: a line's last column is the 198th
-        ColumnsLevelled w = of("columns 5;height 10;rule 8;orphans 1;widows 1;"
+        ColumnsLevelled w = Texts.of("columns 5;height 10;rule 8;orphans 1;widows 1;"
             + "lines 4 1 mark 1 20 mark 2 20 mark 3 20 mark 4 20");
         for (int i = 2; i <= 6; i++) {
             w.again(0);
         }
         due("pour", w.pour(), -2 - 19);
         due("columns", w.column(NONE, 0), 200);
-        due("column 198", rowOf(w, 198), 39, 3, 0, 18, 19, 1, 0, 20, 1, 0, 10, 0);
-        due("column 199", rowOf(w, 199), 39, 4, 0, 19, 19, 0, 19, 0, 2, 0, 10, 0);
+        due("column 198", Texts.column(w, 198), 39, 3, 0, 18, 19, 1, 0, 20, 1, 0, 10, 0);
+        due("column 199", Texts.column(w, 199), 39, 4, 0, 19, 19, 0, 19, 0, 2, 0, 10, 0);
         // eleven pages for each line's note, the fourth one's goes on behind page 39
-        ColumnsLevelled n = of("columns 1;height 10;rule 8;orphans 1;widows 1;"
+        ColumnsLevelled n = Texts.of("columns 1;height 10;rule 8;orphans 1;widows 1;"
             + "lines 4 1 mark 1 20 mark 2 20 mark 3 20 mark 4 20");
         due("pour at the section's end", n.pour(), -6);
         due("note", n.note(3, 2), 1);
         due("note", n.note(3, 3), 7);
         due("note", n.note(2, 3), 11);
         due("where", n.where(3, 0), 33);
-        due("column", rowOf(n, 39), 39, 0, 0, 4, 4, 0, 9, 0, 2, 0, 10, 0);
+        due("column", Texts.column(n, 39), 39, 0, 0, 4, 4, 0, 9, 0, 2, 0, 10, 0);
     }
 
     private static void pourSpans() {
         promise = 21;
-        ColumnsLevelled x = of("height 10;columns 2;room 3;orphans 1;widows 1;"
+        ColumnsLevelled x = Texts.of("height 10;columns 2;room 3;orphans 1;widows 1;"
             + "lines 8 1;span 2;lines 4 1;span 4;solid 1;span 60;solid 1");
         due("pour", x.pour(), 4);
         int[][] spans = {{0, 4}, {1, 0}, {2, 0}};
@@ -655,21 +604,21 @@ public final class PromisesTest {
         due("span", x.span(0, 2), NONE);
         due("span", x.span(0, -1), NONE);
         promise = 18;
-        due("column 2", rowOf(x, 2), 0, 0, 1, 8, 10, 2, 0, 0, 0, 6, 2, 1);
-        due("column 5", rowOf(x, 5), 1, 1, 2, 13, 13, 0, 0, 0, 0, 4, 1, 1);
-        due("column 6", rowOf(x, 6), 3, 0, 3, 13, 14, 1, 0, 0, 0, 0, 1, 1);
+        due("column 2", Texts.column(x, 2), 0, 0, 1, 8, 10, 2, 0, 0, 0, 6, 2, 1);
+        due("column 5", Texts.column(x, 5), 1, 1, 2, 13, 13, 0, 0, 0, 0, 4, 1, 1);
+        due("column 6", Texts.column(x, 6), 3, 0, 3, 13, 14, 1, 0, 0, 0, 0, 1, 1);
         promise = 17;
         x.set(7, 4);
         due("span on the free rest", x.span(0, 0), 0);
         x.set(7, 5);
         due("no room for what comes behind", x.span(0, 0), 1);
         // filled below a span, as much as is free there
-        ColumnsLevelled y = of("height 10;columns 1;orphans 1;widows 1;span 6;lines 9 1");
+        ColumnsLevelled y = Texts.of("height 10;columns 1;orphans 1;widows 1;span 6;lines 9 1");
         due("pour", y.pour(), 2);
-        due("column 0", rowOf(y, 0), 0, 0, 1, 0, 4, 4, 0, 0, 0, 6, 4, 0);
-        due("column 1", rowOf(y, 1), 1, 0, 1, 4, 9, 5, 0, 0, 0, 0, 5, 1);
+        due("column 0", Texts.column(y, 0), 0, 0, 1, 0, 4, 4, 0, 0, 0, 6, 4, 0);
+        due("column 1", Texts.column(y, 1), 1, 0, 1, 4, 9, 5, 0, 0, 0, 0, 5, 1);
         // nothing has room below the span: no columns there
-        ColumnsLevelled z = of("height 10;columns 2;span 6;solid 5");
+        ColumnsLevelled z = Texts.of("height 10;columns 2;span 6;solid 5");
         due("pour", z.pour(), 2);
         due("columns", z.column(NONE, 0), 2);
         due("column 0", z.column(0, 0), 1);
@@ -677,11 +626,11 @@ public final class PromisesTest {
 
     private static void notes() {
         promise = 20;
-        ColumnsLevelled x = of("columns 3;height 10;orphans 1;widows 1;rule 1;note 2;lines 6 1 mark 2 7");
+        ColumnsLevelled x = Texts.of("columns 3;height 10;orphans 1;widows 1;rule 1;note 2;lines 6 1 mark 2 7");
         due("pour", x.pour(), 1);
-        due("column 0", rowOf(x, 0), 0, 0, 0, 0, 5, 5, 0, 7, 1, 0, 8, 1);
-        due("column 1", rowOf(x, 1), 0, 1, 0, 5, 6, 1, 6, 0, 3, 0, 8, 1);
-        due("column 2", rowOf(x, 2), 0, 2, 0, 6, 6, 0, 3, 0, 3, 0, 8, 1);
+        due("column 0", Texts.column(x, 0), 0, 0, 0, 0, 5, 5, 0, 7, 1, 0, 8, 1);
+        due("column 1", Texts.column(x, 1), 0, 1, 0, 5, 6, 1, 6, 0, 3, 0, 8, 1);
+        due("column 2", Texts.column(x, 2), 0, 2, 0, 6, 6, 0, 3, 0, 3, 0, 8, 1);
         due("note", x.note(NONE, 0), 1);
         due("note", x.note(NONE, 1), NONE);
         due("note", x.note(0, 0), 1);
@@ -693,21 +642,21 @@ public final class PromisesTest {
         due("note", x.note(1, 0), NONE);
         due("note", x.note(-2, 0), NONE);
         // marks told in another order: notes go by pieces
-        ColumnsLevelled y = of("columns 1;height 40;lines 6 1 mark 5 2 mark 2 3;lines 2 1 mark 1 20");
+        ColumnsLevelled y = Texts.of("columns 1;height 40;lines 6 1 mark 5 2 mark 2 3;lines 2 1 mark 1 20");
         due("pour", y.pour(), 1);
         due("note", y.note(0, 0), 1);
         due("note", y.note(1, 1), 2);
         due("note", y.note(2, 2), 20);
         due("note", y.note(1, 3), 1);
         // a note that goes on over pages; what is left over by its mark's column stands ahead of others
-        ColumnsLevelled z = of("columns 1;height 10;rule 0;lines 1 1 mark 1 20");
+        ColumnsLevelled z = Texts.of("columns 1;height 10;rule 0;lines 1 1 mark 1 20");
         due("pour", z.pour(), 3);
-        due("column 1", rowOf(z, 1), 1, 0, 0, 1, 1, 0, 11, 0, 10, 0, 10, 0);
-        due("column 2", rowOf(z, 2), 2, 0, 0, 1, 1, 0, 1, 0, 1, 0, 1, 1);
+        due("column 1", Texts.column(z, 1), 1, 0, 0, 1, 1, 0, 11, 0, 10, 0, 10, 0);
+        due("column 2", Texts.column(z, 2), 2, 0, 0, 1, 1, 0, 1, 0, 1, 0, 1, 1);
         due("note", z.note(0, 2), 9);
         due("note", z.note(0, 3), 3);
         // nowhere
-        ColumnsLevelled w = of("columns 1;height 10;rule 9;lines 1 1 mark 1 1");
+        ColumnsLevelled w = Texts.of("columns 1;height 10;rule 9;lines 1 1 mark 1 1");
         due("pour", w.pour(), -2);
         due("note", w.note(0, 2), -2);
         due("note", w.note(0, 3), -2);
@@ -719,15 +668,15 @@ public final class PromisesTest {
 
     private static void tables() {
         promise = 18;
-        ColumnsLevelled x = of("columns 2;table 2 5 2");
+        ColumnsLevelled x = Texts.of("columns 2;table 2 5 2");
         due("pour", x.pour(), 1);
-        due("column 0", rowOf(x, 0), 0, 0, 0, 0, 3, 8, 0, 0, 0, 0, 8, 1);
-        due("column 1", rowOf(x, 1), 0, 1, 0, 3, 5, 6, 0, 0, 0, 0, 8, 1);
+        due("column 0", Texts.column(x, 0), 0, 0, 0, 0, 3, 8, 0, 0, 0, 0, 8, 1);
+        due("column 1", Texts.column(x, 1), 0, 1, 0, 3, 5, 6, 0, 0, 0, 0, 8, 1);
         promise = 19;
-        due("where", wheresOf(x, 0), 0, 0, 0);
-        due("where", wheresOf(x, 1), 0, 0, 4);
-        due("where", wheresOf(x, 3), 0, 1, 2);
-        due("where", wheresOf(x, 4), 0, 1, 4);
+        due("where", Texts.where(x, 0), 0, 0, 0);
+        due("where", Texts.where(x, 1), 0, 0, 4);
+        due("where", Texts.where(x, 3), 0, 1, 2);
+        due("where", Texts.where(x, 4), 0, 1, 4);
         promise = 23;
         due("least", x.least(0), 8);
         promise = 24;
@@ -748,19 +697,19 @@ public final class PromisesTest {
 
     private static void where() {
         promise = 19;
-        ColumnsLevelled x = of("columns 2;height 20;head 3 space 9;lines 4 1 space 2;span 1;solid 5 space 7;solid 6 space 4");
+        ColumnsLevelled x = Texts.of("columns 2;height 20;head 3 space 9;lines 4 1 space 2;span 1;solid 5 space 7;solid 6 space 4");
         due("a space vanishes at the column's head", x.where(0, 2), 0);
-        due("where", wheresOf(x, 1), 0, 0, 5);
+        due("where", Texts.where(x, 1), 0, 0, 5);
         due("least", x.least(0), 7);
-        due("where", wheresOf(x, 3), 0, 1, 0);
-        due("where", wheresOf(x, 4), 0, 1, 1);
-        due("where", wheresOf(x, 5), 0, 2, 0);
-        due("where", wheresOf(x, 6), 0, 3, 0);
+        due("where", Texts.where(x, 3), 0, 1, 0);
+        due("where", Texts.where(x, 4), 0, 1, 1);
+        due("where", Texts.where(x, 5), 0, 2, 0);
+        due("where", Texts.where(x, 6), 0, 3, 0);
         x.set(0, 1);
-        due("filled below the span", wheresOf(x, 5), 0, 1, 0);
-        due("where", wheresOf(x, 6), 1, 2, 0);
+        due("filled below the span", Texts.where(x, 5), 0, 1, 0);
+        due("where", Texts.where(x, 6), 1, 2, 0);
         x.set(1, 30);
-        due("where", wheresOf(x, 6), 0, 1, 9);
+        due("where", Texts.where(x, 6), 0, 1, 9);
         due("where", x.where(7, 0), NONE);
         due("where", x.where(-1, 0), NONE);
         due("where", x.where(0, 3), NONE);
@@ -769,7 +718,7 @@ public final class PromisesTest {
 
     private static void fitsAndLeast() {
         promise = 22;
-        ColumnsLevelled x = of("columns 2;orphans 3;widows 3;lines 7 2;span 4;head 2;solid 9;span 1");
+        ColumnsLevelled x = Texts.of("columns 2;orphans 3;widows 3;lines 7 2;span 4;head 2;solid 9;span 1");
         due("fits", x.fits(0, 7), 0);
         due("fits", x.fits(0, 8), 1);
         due("fits", x.fits(1, 10), 0);
@@ -786,14 +735,14 @@ public final class PromisesTest {
         due("least", x.least(2), 0);
         due("least", x.least(3), NONE);
         due("least", x.least(-1), NONE);
-        ColumnsLevelled y = of("columns 1;" + "solid 200;".repeat(9) + "solid 200");
+        ColumnsLevelled y = Texts.of("columns 1;" + "solid 200;".repeat(9) + "solid 200");
         due("least", y.least(0), 2000);
         y.again(0);
         due("least", y.least(0), -2);
         y.set(0, 2);
         due("least", y.least(0), 1200);
         // all notes but the last stand by their marks, and of that one line
-        ColumnsLevelled z = of("columns 1;rule 3;note 2;lines 4 1 mark 1 4 mark 3 5");
+        ColumnsLevelled z = Texts.of("columns 1;rule 3;note 2;lines 4 1 mark 1 4 mark 3 5");
         due("least", z.least(0), 4 + 3 + 18);
         z.set(0, 2);
         // two lines with 4 note lines, two lines with 5
@@ -806,7 +755,7 @@ public final class PromisesTest {
 
     private static void reach() {
         promise = 24;
-        ColumnsLevelled x = of("columns 2;orphans 1;widows 1;lines 4 1 mark 2 5;solid 6;span 3");
+        ColumnsLevelled x = Texts.of("columns 2;orphans 1;widows 1;lines 4 1 mark 2 5;solid 6;span 3");
         due("no line of the note has room", x.reach(0, 1, 3), 1);
         due("reach", x.reach(0, 1, 4), 2);
         due("reach", x.reach(0, 1, 5), 3);
@@ -817,7 +766,7 @@ public final class PromisesTest {
         due("reach", x.reach(0, 5, 2000), 5);
         due("a section of no pieces", x.reach(1, 3, 0), 5);
         // only the first column's end behind line 2 leaves nothing for the third one to bear
-        ColumnsLevelled y = of("note 3;rule 1;orphans 1;widows 2;lines 7 1 tied mark 2 4;lines 6 1 mark 1 7");
+        ColumnsLevelled y = Texts.of("note 3;rule 1;orphans 1;widows 2;lines 7 1 tied mark 2 4;lines 6 1 mark 1 7");
         due("the least carried counts", y.reach(0, 3, 9), 9);
         due("reach", x.reach(0, 0, 5), NONE);
         due("reach", x.reach(0, 6, 5), NONE);
@@ -829,7 +778,7 @@ public final class PromisesTest {
 
     private static void trial() {
         promise = 25;
-        ColumnsLevelled x = of("columns 1;height 10;lines 5 1;solid 11");
+        ColumnsLevelled x = Texts.of("columns 1;height 10;lines 5 1;solid 11");
         due("trial", x.trial(1, 10), -7);
         due("trial", x.trial(1, 11), 2);
         due("trial", x.trial(1, 16), 1);
@@ -841,16 +790,16 @@ public final class PromisesTest {
         due("pour", x.pour(), -7);
         due("height", x.count(11), 10);
         due("acts", x.count(4), 0);
-        due("the room of a span", of("height 10;columns 1;solid 5;span 5").trial(7, 1), 2);
+        due("the room of a span", Texts.of("height 10;columns 1;solid 5;span 5").trial(7, 1), 2);
     }
 
     private static void costs() {
         promise = 26;
-        ColumnsLevelled x = of("columns 2;orphans 3;widows 3;lines 5 1;span 1;solid 5 tied;solid 5;span 1;lines 8 1 whole");
+        ColumnsLevelled x = Texts.of("columns 2;orphans 3;widows 3;lines 5 1;span 1;solid 5 tied;solid 5;span 1;lines 8 1 whole");
         due("orphans", x.costs(0, 0), 2);
         due("widows", x.costs(0, 1), 2);
-        due("widows 1, not 2", of("columns 2;orphans 3;widows 3;lines 4 1").costs(0, 1), 1);
-        due("orphans 1, not 2", of("columns 2;orphans 3;widows 3;lines 4 1").costs(0, 0), 1);
+        due("widows 1, not 2", Texts.of("columns 2;orphans 3;widows 3;lines 4 1").costs(0, 1), 1);
+        due("orphans 1, not 2", Texts.of("columns 2;orphans 3;widows 3;lines 4 1").costs(0, 0), 1);
         due("follow", x.costs(0, 2), 0);
         due("tied", x.costs(1, 3), 5);
         due("whole", x.costs(1, 4), 0);
@@ -860,13 +809,13 @@ public final class PromisesTest {
         due("costs", x.costs(0, 5), NONE);
         due("costs", x.costs(0, -1), NONE);
         due("still tied", x.block(2, 5), 1);
-        due("follow", of("columns 2;orphans 1;widows 1;follow 9;head 1;lines 9 1").costs(0, 2), 5);
-        due("no least", of("columns 1;" + "solid 200;".repeat(10) + "solid 200").costs(0, 3), -2);
+        due("follow", Texts.of("columns 2;orphans 1;widows 1;follow 9;head 1;lines 9 1").costs(0, 2), 5);
+        due("no least", Texts.of("columns 1;" + "solid 200;".repeat(10) + "solid 200").costs(0, 3), -2);
     }
 
     private static void tall() {
         promise = 27;
-        ColumnsLevelled x = of("columns 1;height 10;lines 5 1;solid 11");
+        ColumnsLevelled x = Texts.of("columns 1;height 10;lines 5 1;solid 11");
         due("tall", x.tall(0), -2);
         due("tall", x.tall(1), 16);
         due("tall", x.tall(2), 11);
@@ -874,62 +823,62 @@ public final class PromisesTest {
         due("tall", x.tall(41), NONE);
         due("tall", x.tall(-1), NONE);
         due("height", x.count(11), 10);
-        due("none", of("columns 1;solid 200;solid 200;solid 1").tall(1), -2);
+        due("none", Texts.of("columns 1;solid 200;solid 200;solid 1").tall(1), -2);
         due("no blocks", new ColumnsLevelled().tall(0), 10);
-        due("spans", of("span 7;span 7").tall(1), 14);
+        due("spans", Texts.of("span 7;span 7").tall(1), 14);
     }
 
     private static void loose() {
         promise = 28;
-        ColumnsLevelled x = of("columns 2;height 10;orphans 1;widows 1;lines 25 1");
+        ColumnsLevelled x = Texts.of("columns 2;height 10;orphans 1;widows 1;lines 25 1");
         due("loose", x.loose(0), 1);
         due("loose", x.loose(1), 1);
         due("loose", x.loose(2), 3);
         due("loose", x.loose(3), NONE);
         due("loose", x.loose(-1), NONE);
-        ColumnsLevelled y = of("columns 3;rule 4;note 2;orphans 1;widows 1;lines 6 1 mark 6 2;lines 1 1");
+        ColumnsLevelled y = Texts.of("columns 3;rule 4;note 2;orphans 1;widows 1;lines 6 1 mark 6 2;lines 1 1");
         // 5 lines; 1 line, RULE, 1 note line; 1 line, RULE, 1 note line
         due("least", y.least(0), 7);
         due("loose", y.loose(0), 21 - 7 - 8 - 4);
         due("loose", y.loose(1), 2);
         due("loose", y.loose(2), 0);
-        ColumnsLevelled z = of("columns 1;height 10;lines 5 1;solid 11");
+        ColumnsLevelled z = Texts.of("columns 1;height 10;lines 5 1;solid 11");
         due("stuck", z.loose(0), -7);
         due("stuck", z.loose(2), -7);
         due("stuck", z.loose(3), NONE);
-        ColumnsLevelled w = of("span 5");
+        ColumnsLevelled w = Texts.of("span 5");
         due("no columns", w.loose(0), 0);
         due("no columns", w.loose(1), 0);
         due("no columns", w.loose(2), -2);
-        ColumnsLevelled v = of("columns 2;solid 3");
+        ColumnsLevelled v = Texts.of("columns 2;solid 3");
         due("of several the first", v.loose(2), 1);
-        due("none unused", of("columns 2;solid 3;solid 3").loose(2), 0);
+        due("none unused", Texts.of("columns 2;solid 3;solid 3").loose(2), 0);
     }
 
     private static void page() {
         promise = 29;
-        ColumnsLevelled x = of("height 10;columns 2;orphans 1;widows 1;lines 8 1 mark 8 2;span 2;solid 3;span 2;solid 5;span 1");
+        ColumnsLevelled x = Texts.of("height 10;columns 2;orphans 1;widows 1;lines 8 1 mark 8 2;span 2;solid 3;span 2;solid 5;span 1");
         // 6 lines beside 2 lines, RULE and 2 note lines; the last span comes where nothing is free
         due("pour", x.pour(), 3);
-        due("page 0", pageOf(x, 0), 2, 8, 1, 2, 1);
-        due("page 1", pageOf(x, 1), 4, 2, 1, 0, 2);
-        due("page 2", pageOf(x, 2), 0, 0, 1, 0, 0);
-        due("page 3", pageOf(x, 3), NONE, NONE, NONE, NONE, NONE);
+        due("page 0", Texts.page(x, 0), 2, 8, 1, 2, 1);
+        due("page 1", Texts.page(x, 1), 4, 2, 1, 0, 2);
+        due("page 2", Texts.page(x, 2), 0, 0, 1, 0, 0);
+        due("page 3", Texts.page(x, 3), NONE, NONE, NONE, NONE, NONE);
         due("page", x.page(-1, 0), NONE);
         due("page", x.page(0, 5), NONE);
         due("page", x.page(0, -1), NONE);
-        ColumnsLevelled y = of("columns 1;height 10;lines 5 1;solid 11");
-        due("page 0", pageOf(y, 0), 1, 5, 0, 0, 1);
-        due("stuck on page 1", pageOf(y, 1), 0, 0, 0, 0, 0);
+        ColumnsLevelled y = Texts.of("columns 1;height 10;lines 5 1;solid 11");
+        due("page 0", Texts.page(y, 0), 1, 5, 0, 0, 1);
+        due("stuck on page 1", Texts.page(y, 1), 0, 0, 0, 0, 0);
         due("page 2", y.page(2, 0), NONE);
-        ColumnsLevelled z = of("columns 1;height 10;orphans 1;widows 1;lines 30 9;lines 30 9");
-        due("page 39", pageOf(z, 39), 1, 1, 0, 0, 1);
+        ColumnsLevelled z = Texts.of("columns 1;height 10;orphans 1;widows 1;lines 30 9;lines 30 9");
+        due("page 39", Texts.page(z, 39), 1, 1, 0, 0, 1);
         due("behind page 39", z.page(40, 0), NONE);
     }
 
     private static void ways() {
         promise = 30;
-        ColumnsLevelled x = of("columns 3;orphans 1;widows 1;lines 3 1;span 1");
+        ColumnsLevelled x = Texts.of("columns 3;orphans 1;widows 1;lines 3 1;span 1");
         due("ways", x.ways(0, 0), 0);
         due("ways", x.ways(0, 1), 1);
         due("ways", x.ways(0, 2), 7);
@@ -939,16 +888,16 @@ public final class PromisesTest {
         due("ways", x.ways(2, 0), NONE);
         due("ways", x.ways(0, -1), NONE);
         due("ways", x.ways(0, 2001), NONE);
-        due("most", of("columns 5;orphans 1;widows 1;lines 30 1;lines 30 1;lines 30 1").ways(0, 90), 3049501);
+        due("most", Texts.of("columns 5;orphans 1;widows 1;lines 30 1;lines 30 1;lines 30 1").ways(0, 90), 3049501);
         // the note's second line may stand in the second column
-        due("carried", of("columns 2;orphans 1;widows 1;lines 2 1 mark 1 2").ways(0, 3), 1);
-        due("carried", of("columns 2;orphans 1;widows 1;lines 2 1 mark 1 2").ways(0, 4), 2);
-        due("carried", of("columns 2;orphans 1;widows 1;lines 2 1 mark 1 2").ways(0, 5), 3);
+        due("carried", Texts.of("columns 2;orphans 1;widows 1;lines 2 1 mark 1 2").ways(0, 3), 1);
+        due("carried", Texts.of("columns 2;orphans 1;widows 1;lines 2 1 mark 1 2").ways(0, 4), 2);
+        due("carried", Texts.of("columns 2;orphans 1;widows 1;lines 2 1 mark 1 2").ways(0, 5), 3);
     }
 
     private static void untie() {
         promise = 31;
-        ColumnsLevelled x = of("columns 2;solid 5 tied;solid 5 tied;solid 5");
+        ColumnsLevelled x = Texts.of("columns 2;solid 5 tied;solid 5 tied;solid 5");
         due("it fits", x.untie(0, 15), 0);
         due("untie", x.untie(0, 10), 1);
         due("untie", x.untie(0, 9), -2);
@@ -956,12 +905,12 @@ public final class PromisesTest {
         due("untie", x.untie(0, 5), 3);
         due("untie", x.untie(0, 4), -2);
         due("tied still", x.block(0, 5), 1);
-        due("bits of blocks", of("columns 2;span 1;solid 3 tied;solid 6 tied;solid 9").untie(1, 9), 4);
+        due("bits of blocks", Texts.of("columns 2;span 1;solid 3 tied;solid 6 tied;solid 9").untie(1, 9), 4);
         String nine = "solid 1 tied;".repeat(9) + "solid 9";
-        due("the ninth is not asked", of("columns 2;" + nine).untie(0, 9), -2);
-        due("the eighth is", of("columns 2;" + nine).untie(0, 10), 128);
-        due("others' ties are not", of("columns 2;solid 1 tied;span 1;solid 4 tied;solid 4").untie(1, 4), 4);
-        due("nothing is tied", of("columns 2;solid 4;solid 4;solid 4").untie(0, 4), -2);
+        due("the ninth is not asked", Texts.of("columns 2;" + nine).untie(0, 9), -2);
+        due("the eighth is", Texts.of("columns 2;" + nine).untie(0, 10), 128);
+        due("others' ties are not", Texts.of("columns 2;solid 1 tied;span 1;solid 4 tied;solid 4").untie(1, 4), 4);
+        due("nothing is tied", Texts.of("columns 2;solid 4;solid 4;solid 4").untie(0, 4), -2);
         due("untie", x.untie(1, 4), NONE);
         due("untie", x.untie(-1, 4), NONE);
         due("untie", x.untie(0, -1), NONE);
@@ -970,7 +919,7 @@ public final class PromisesTest {
 
     private static void narrow() {
         promise = 32;
-        ColumnsLevelled x = of("columns 1;solid 5;solid 5;solid 5;solid 5;solid 5;span 1");
+        ColumnsLevelled x = Texts.of("columns 1;solid 5;solid 5;solid 5;solid 5;solid 5;span 1");
         due("narrow", x.narrow(0, 25), 1);
         due("narrow", x.narrow(0, 24), 2);
         due("narrow", x.narrow(0, 14), 3);
@@ -986,38 +935,38 @@ public final class PromisesTest {
 
     private static void even() {
         promise = 33;
-        due("even", of("columns 3;height 10;orphans 1;widows 1;note 2;lines 6 1 mark 2 7").even(0), 1);
-        ColumnsLevelled x = of("columns 3;height 10;solid 30;solid 20;span 1;lines 6 1;span 9");
+        due("even", Texts.of("columns 3;height 10;orphans 1;widows 1;note 2;lines 6 1 mark 2 7").even(0), 1);
+        ColumnsLevelled x = Texts.of("columns 3;height 10;solid 30;solid 20;span 1;lines 6 1;span 9");
         due("a column without anything", x.even(0), 30);
         due("even", x.even(1), 0);
         due("a section of no pieces", x.even(2), 0);
         due("even", x.even(3), NONE);
         due("even", x.even(-1), NONE);
-        due("no least", of("columns 1;" + "solid 200;".repeat(10) + "solid 200").even(0), -2);
+        due("no least", Texts.of("columns 1;" + "solid 200;".repeat(10) + "solid 200").even(0), -2);
     }
 
     private static void order() {
         promise = 34;
-        ColumnsLevelled x = of("columns 1;height 10;solid 8;solid 6;solid 7;solid 4");
+        ColumnsLevelled x = Texts.of("columns 1;height 10;solid 8;solid 6;solid 7;solid 4");
         due("pour", x.pour(), 4);
         due("order", x.order(0), 1);
         due("order", x.order(1), 3);
         due("order", x.order(2), NONE);
         due("order", x.order(-1), NONE);
         due("kinds stay", x.block(1, 3), 6);
-        due("one block", of("solid 1").order(0), -2);
-        ColumnsLevelled stuck = of("height 10;solid 3;solid 11");
+        due("one block", Texts.of("solid 1").order(0), -2);
+        ColumnsLevelled stuck = Texts.of("height 10;solid 3;solid 11");
         due("stuck", stuck.order(0), -2);
         due("stuck", stuck.order(1), -2);
-        ColumnsLevelled spans = of("height 10;columns 1;solid 6;span 6;solid 4");
+        ColumnsLevelled spans = Texts.of("height 10;columns 1;solid 6;span 6;solid 4");
         due("order", spans.order(0), 0);
         due("order", spans.order(1), 2);
-        due("no change", of("height 10;solid 1;solid 1").order(1), 1);
+        due("no change", Texts.of("height 10;solid 1;solid 1").order(1), 1);
     }
 
     private static void count() {
         promise = 35;
-        ColumnsLevelled x = of("columns 3;lines 4 1 mark 1 1 mark 2 2;span 4;lines 2 1 mark 2 3;span 1");
+        ColumnsLevelled x = Texts.of("columns 3;lines 4 1 mark 1 1 mark 2 2;span 4;lines 2 1 mark 2 3;span 1");
         int[] want = {4, 6, 3, 3, 0, 0, 0, 2};
         for (int what = 0; what < 8; what++) {
             due("count " + what, x.count(what), want[what]);
@@ -1040,16 +989,16 @@ public final class PromisesTest {
         promise = 13;
         due("back", new ColumnsLevelled().back(2), NONE);
         promise = 9;
-        due("again", of("span 1;".repeat(15) + "span 1").again(16), NONE);
+        due("again", Texts.of("span 1;".repeat(15) + "span 1").again(16), NONE);
         promise = 19;
-        due("where", of("height 10;solid 11").where(0, 9), NONE);
+        due("where", Texts.of("height 10;solid 11").where(0, 9), NONE);
         promise = 20;
-        due("note", of("height 10;rule 9;lines 1 9 mark 1 1").note(0, 9), NONE);
+        due("note", Texts.of("height 10;rule 9;lines 1 9 mark 1 1").note(0, 9), NONE);
         promise = 21;
-        due("span", of("height 10;solid 11;span 1").span(0, 2), NONE);
-        due("span", of("height 10;solid 11;span 1").span(0, 1), -2);
+        due("span", Texts.of("height 10;solid 11;span 1").span(0, 2), NONE);
+        due("span", Texts.of("height 10;solid 11;span 1").span(0, 1), -2);
         promise = 26;
-        due("costs", of("columns 1;" + "solid 200;".repeat(10) + "solid 200").costs(0, 9), NONE);
+        due("costs", Texts.of("columns 1;" + "solid 200;".repeat(10) + "solid 200").costs(0, 9), NONE);
         promise = 34;
         due("order", new ColumnsLevelled().order(5), NONE);
     }

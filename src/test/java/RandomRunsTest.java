@@ -61,11 +61,7 @@ public final class RandomRunsTest {
             int n = Math.min(bytes.length, 400);
             int fed = 0;
             while (fed < n) {
-                int[] v = new int[5];
-                for (int i = 0; i < 20; i++) {
-                    int b = fed + i < n ? bytes[fed + i] & 255 : 32;
-                    v[i / 4] = v[i / 4] << 8 | b;
-                }
+                int[] v = Texts.portion(bytes, fed);
                 due("feed", x.feed(v[0], v[1], v[2], v[3], v[4]), o.feed(v));
                 fed += 20;
             }
