@@ -928,6 +928,10 @@ public final class PromiseSentencesTest {
             t.due("spans", new int[] {Texts.of("span 7;span 7").tall(1), Texts.of("span 7;span 7").tall(2)}, 14, 10);
             t.due("with room", Texts.of("room 9;span 7;span 7").tall(1), 23);
             t.due("as many", Texts.of(ALONE + "lines 30 9;lines 10 9").tall(40), 10);
+            // with 12 a row of the table comes to stand on PAGE 0, but a note line then on PAGE 2
+            ColumnsLevelled y = Texts.of("columns 1;orphans 1;widows 1;rule 0;lines 3 2 mark 1 7;table 4 4 1");
+            t.due("more pages by more height", new int[] {y.trial(1, 10), y.trial(1, 11), y.trial(1, 12), y.trial(1, 13)}, 3, 2, 3, 2);
+            t.due("the least", new int[] {y.tall(3), y.tall(2), y.tall(1)}, 10, 11, 21);
         });
         t.test("-2: by none;", () -> {
             t.due("no page", Texts.of("solid 1").tall(0), -2);
